@@ -78,7 +78,9 @@ public final class PromisesTest {
         }
         due("new tape", x.look(0), 0);
         due("new fault", x.fault(0), 0);
-        due("new fault's place", x.fault(1), NONE);
+        for (int what = 1; what <= 4; what++) {
+            due("new fault " + what, x.fault(what), NONE);
+        }
         due("NONE", NONE, -1);
     }
 
@@ -210,6 +212,8 @@ public final class PromisesTest {
         dueFault("(0)", 4, 3, NONE, NONE, NONE);
         dueFault("(0)(2) ", 4, 7, NONE, NONE, NONE);
         dueFault("(1)", 4, 3, NONE, NONE, NONE);
+        dueFault("(1 2)", 4, 5, NONE, NONE, NONE);
+        dueFault("(0 1)(2 4)", 4, 10, NONE, NONE, NONE);
         dueFault("(30 31)", 4, 7, NONE, NONE, NONE);
         dueFault("(0 1 2)", 4, 7, NONE, NONE, NONE);
         dueFault("(0 1)(2 3)", 5, 10, NONE, NONE, NONE);
@@ -453,11 +457,34 @@ public final class PromisesTest {
         Check.read(x, EDGE, 3);
         due("one edge can be parted", x.of(3, 7), 1);
         due("one edge has no four sides", x.of(3, 6), 0);
+        shrink();
         due("of 9", x.of(0, 9), NONE);
         due("of -1", x.of(0, -1), NONE);
         due("of least", x.of(0, LEAST), NONE);
         due("no slot", x.of(4, 0), NONE);
         due("no slot", x.of(-1, 0), NONE);
+    }
+
+    /** Nothing of a greater map that was in the slot, or in one beside it, is seen of a lesser one. */
+    private static void shrink() {
+        PlaneMaps x = with("(0 2 4 6 8)(1 9 7 5 3)");
+        for (int slot = 0; slot < 4; slot++) {
+            x.change(0, 0, 0, slot);
+        }
+        for (int slot = 0; slot < 4; slot++) {
+            Check.read(x, EDGE, slot);
+            due("greatest degree of a vertex then", x.of(slot, 4), 1);
+            due("greatest degree of a face then", x.of(slot, 5), 2);
+            due("greatest distance then", x.ring(slot, 0, NONE), 1);
+        }
+        for (int slot = 0; slot < 4; slot++) {
+            x.map(slot);
+            due("no degree of a vertex then", x.of(slot, 4), 0);
+            due("no degree of a face then", x.of(slot, 5), 0);
+            due("degree of the vertex", x.degree(slot, 0, 0), 0);
+            due("degree of the face", x.degree(slot, 1, 0), 0);
+            due("edges in one face", x.of(slot, 8), 0);
+        }
     }
 
     // Promise 16
