@@ -1,20 +1,37 @@
+import java.util.function.ToLongFunction;
+
 /** What the project's tests share: answers against what is due, and texts on the tape. */
 final class Check {
     private final String name;
     private int asked = 0;
     private int wrong = 0;
+    private String sentence = "";
+    private int sentences = 0;
+    private int askedBefore = 0;
 
     Check(String name) {
         this.name = name;
     }
 
+    /** What is asked from here on tests these words of the document; a sentence that asks nothing is wrong. */
+    void sentence(String where, String words) {
+        closeSentence();
+        sentence = where + ", \"" + words + "\": ";
+        sentences++;
+        askedBefore = asked;
+    }
+
+    private void closeSentence() {
+        if (sentences > 0 && asked == askedBefore) {
+            wrong++;
+            System.out.println(sentence + "asks nothing");
+        }
+    }
+
     void due(String what, long got, long want) {
         asked++;
         if (got != want) {
-            wrong++;
-            if (wrong <= 50) {
-                System.out.println(what + " answered " + got + ", due is " + want);
-            }
+            tellWrong(what + " answered " + got + ", due is " + want);
         }
     }
 
@@ -22,9 +39,60 @@ final class Check {
         due(what, got ? 1 : 0, want ? 1 : 0);
     }
 
+    void due(String what, String got, String want) {
+        asked++;
+        if (!got.equals(want)) {
+            tellWrong(what + " is " + got + ", due is " + want);
+        }
+    }
+
+    private void tellWrong(String text) {
+        wrong++;
+        if (wrong <= 50) {
+            System.out.println(sentence + text);
+        }
+    }
+
+    /** The text by which the map in a slot is told. */
+    void dueText(String what, PlaneMaps x, int map, String want) {
+        due(what, shown(x, map), want);
+    }
+
+    /** A text that can't be taken, with what fault(0) to fault(4) answer of it. */
+    void dueFault(String text, int... want) {
+        PlaneMaps x = new PlaneMaps();
+        due("map of " + text, read(x, text, 1), PlaneMaps.NONE);
+        for (int what = 0; what <= 4; what++) {
+            due("fault(" + what + ") of " + text, x.fault(what), want[what]);
+        }
+    }
+
+    /** A fault without anything WITHIN. */
+    void dueBareFault(String text, int fault, int place) {
+        dueFault(text, fault, place, PlaneMaps.NONE, PlaneMaps.NONE, PlaneMaps.NONE);
+    }
+
+    /** A new object with a map in slot 0. */
+    PlaneMaps with(String text) {
+        PlaneMaps x = new PlaneMaps();
+        due("the text is taken: " + text, read(x, text, 0) >= 0, true);
+        return x;
+    }
+
+    /** A call on Samples.full() that answers what is due and changes nothing that can be seen. */
+    void dueRefused(String what, long want, ToLongFunction<PlaneMaps> call) {
+        PlaneMaps x = Samples.full();
+        String before = Samples.state(x);
+        due(what, call.applyAsLong(x), want);
+        due(what + ": all that is held", Samples.state(x), before);
+        due(what + ": the text on the tape", x.map(3), 1);
+    }
+
     /** Prints the result and ends the program with 1 if an answer was wrong. */
     void end() {
-        System.out.println(name + ": " + asked + " answers, " + wrong + " wrong");
+        closeSentence();
+        String of = sentences > 0 ? sentences + " sentences, " : "";
+        System.out.println(name + ": " + of + asked + " answers, " + wrong + " wrong");
         if (wrong != 0 || asked == 0) {
             System.exit(1);
         }
@@ -56,7 +124,8 @@ final class Check {
 
     static String shown(PlaneMaps x, int map) {
         StringBuilder text = new StringBuilder();
-        for (int i = 0; i < x.shown(map, PlaneMaps.NONE); i++) {
+        int length = x.shown(map, PlaneMaps.NONE);
+        for (int i = 0; i < length; i++) {
             text.append((char) x.shown(map, i));
         }
         return text.toString();
@@ -64,8 +133,9 @@ final class Check {
 
     static String code(PlaneMaps x, int map) {
         StringBuilder text = new StringBuilder();
-        for (int i = 0; i < 2 * x.of(map, 0); i++) {
-            text.append(x.code(map, i)).append(' ');
+        int darts = 2 * x.of(map, 0);
+        for (int i = 0; i < darts; i++) {
+            text.append(i == 0 ? "" : " ").append(x.code(map, i));
         }
         return text.toString();
     }

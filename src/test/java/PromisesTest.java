@@ -3,12 +3,11 @@ public final class PromisesTest {
     private static final int NONE = PlaneMaps.NONE;
     private static final int LEAST = Integer.MIN_VALUE;
     private static final int MOST = Integer.MAX_VALUE;
-    /** A triangle with a leaf at the vertex of dart 0, inside the face of dart 0. */
-    private static final String TRIANGLE = "(0 5 6)(1 2)(3 4)(7)";
-    private static final String LOOP = "(0 1)";
-    private static final String EDGE = "(0)(1)";
-    private static final String PATH = "(0)(1 2)(3)";
-    private static final String CYCLE_4 = "(0 7)(1 2)(3 4)(5 6)";
+    private static final String TRIANGLE = Samples.TRIANGLE;
+    private static final String LOOP = Samples.LOOP;
+    private static final String EDGE = Samples.EDGE;
+    private static final String PATH = Samples.PATH;
+    private static final String CYCLE_4 = Samples.CYCLE_4;
 
     private static final Check CHECK = new Check("promises");
 
@@ -50,14 +49,15 @@ public final class PromisesTest {
     }
 
     private static PlaneMaps with(String text) {
-        PlaneMaps x = new PlaneMaps();
-        due("edges of " + text, Check.read(x, text, 0) >= 0, true);
-        return x;
+        return CHECK.with(text);
     }
 
     private static void dueText(String what, PlaneMaps x, int map, String want) {
-        String got = Check.shown(x, map);
-        due(what + " is " + got + ", due is " + want + "; the same", got.equals(want), true);
+        CHECK.dueText(what, x, map, want);
+    }
+
+    private static void dueFault(String text, int... want) {
+        CHECK.dueFault(text, want);
     }
 
     // Promise 1
@@ -148,27 +148,11 @@ public final class PromisesTest {
         due("fault of another what", x.fault(5), NONE);
         due("fault of another what", x.fault(-1), NONE);
         due("fault of another what", x.fault(LEAST), NONE);
-        StringBuilder star = new StringBuilder("(0");
-        for (int d = 2; d < 32; d += 2) {
-            star.append(' ').append(d);
-        }
-        star.append(')');
-        for (int d = 1; d < 32; d += 2) {
-            star.append('(').append(d).append(')');
-        }
-        due("sixteen edges", Check.read(x, star.toString(), 3), 16);
+        due("sixteen edges", Check.read(x, Samples.star(16), 3), 16);
         due("seventeen vertices", x.of(3, 1), 17);
         dueFault("(0 0)", 3, 3, 0, 0, 1);
         due("a text then", Check.read(x, EDGE, 1), 1);
         due("no fault behind a fault", x.fault(0), 0);
-    }
-
-    private static void dueFault(String text, int... want) {
-        PlaneMaps x = new PlaneMaps();
-        due("map of " + text, Check.read(x, text, 1), NONE);
-        for (int what = 0; what <= 4; what++) {
-            due("fault(" + what + ") of " + text, x.fault(what), want[what]);
-        }
     }
 
     private static void faultsOfSigns() {
