@@ -203,12 +203,12 @@ public final class ChangeEdgesTest {
         CHECK.sentence("Promise 23", "0 without EDGES)");
         for (int root = 0; root <= 1; root++) {
             for (int d = 0; d <= 1; d++) {
-                PlaneMaps x = CHECK.with(Samples.LOOP);
+                PlaneMaps x = Samples.used();
+                Check.read(x, Samples.LOOP, 0);
+                x.change(0, 4, root, 0);
                 x.change(0, 4, root, 0);
                 due("no edge is left", x.change(0, 5, d, 0), 0);
-                due("root", x.of(0, 3), 0);
-                due("vertices", x.of(0, 1), 1);
-                due("faces", x.of(0, 2), 1);
+                CHECK.dueBare("without its last edge", x, 0);
                 due("none can go", x.change(0, 5, 0, 0), NONE);
             }
         }
@@ -247,7 +247,8 @@ public final class ChangeEdgesTest {
                 x.change(0, how, 0, 1);
                 due("change " + how + " with " + d, x.change(0, how, d, 2), 4);
                 CHECK.due("as with dart 0", Check.shown(x, 2), Check.shown(x, 1));
-                due("without edges", x.change(3, how, d, 3), 0);
+                due("without edges", x.change(3, how, d, 0), 0);
+                CHECK.dueBare("changed without edges", x, 0);
             }
         }
     }

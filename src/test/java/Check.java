@@ -72,6 +72,25 @@ final class Check {
         dueFault(text, fault, place, PlaneMaps.NONE, PlaneMaps.NONE, PlaneMaps.NONE);
     }
 
+    /** All that is told of the map in a slot is told as of one without edges. */
+    void dueBare(String what, PlaneMaps x, int slot) {
+        int[] want = {0, 1, 1, 0, 0, 0, 0, 1, 0};
+        for (int sort = 0; sort < want.length; sort++) {
+            due(what + ", of " + sort, x.of(slot, sort), want[sort]);
+        }
+        due(what + ", degree of the vertex", x.degree(slot, 0, 0), 0);
+        due(what + ", degree of the face", x.degree(slot, 1, 0), 0);
+        due(what + ", another vertex", x.degree(slot, 0, 1), PlaneMaps.NONE);
+        due(what + ", another face", x.degree(slot, 1, 1), PlaneMaps.NONE);
+        due(what + ", next", x.dart(slot, 0, 0), PlaneMaps.NONE);
+        due(what + ", distance", x.distance(slot, 0, 0), 0);
+        due(what + ", vertices at no distance", x.ring(slot, 0, 0), 1);
+        due(what + ", greatest distance", x.ring(slot, 0, PlaneMaps.NONE), 0);
+        due(what + ", code", x.code(slot, 0), PlaneMaps.NONE);
+        due(what + ", rootings", x.rootings(slot), 1);
+        due(what + ", text", shown(x, slot), "");
+    }
+
     /** A new object with a map in slot 0. */
     PlaneMaps with(String text) {
         PlaneMaps x = new PlaneMaps();

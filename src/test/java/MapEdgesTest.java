@@ -45,11 +45,13 @@ public final class MapEdgesTest {
             Samples.star(16), Samples.TRIANGLE};
         int[][] want = {{0, 1, 1, 0, 0, 0}, {1, 2, 1, 0, 1, 2}, {1, 1, 2, 0, 2, 1}, {16, 17, 1, 0, 2, 32}, {16, 1, 17, 0, 32, 16},
             {16, 2, 16, 0, 16, 2}, {16, 16, 2, 0, 2, 16}, {16, 17, 1, 0, 16, 32}, {4, 4, 2, 0, 3, 5}};
-        PlaneMaps x = new PlaneMaps();
         for (int i = 0; i < texts.length; i++) {
-            Check.read(x, texts[i], i % 4);
-            for (int what = 0; what <= 5; what++) {
-                due("of " + what + ", " + texts[i], x.of(i % 4, what), want[i][what]);
+            PlaneMaps x = Samples.used();
+            for (int slot = 0; slot < 4; slot++) {
+                Check.read(x, texts[i], slot);
+                for (int what = 0; what <= 5; what++) {
+                    due("of " + what + ", " + texts[i], x.of(slot, what), want[i][what]);
+                }
             }
         }
     }
@@ -73,11 +75,19 @@ public final class MapEdgesTest {
             Samples.cycle(16)};
         String[] not = {Samples.LOOP, Samples.loops(16), Samples.cycle(3), Samples.cycle(15), Samples.TRIANGLE, "(0)(1 2)(3 4)(5 6 7)"};
         for (String text : can) {
-            due("of 7, " + text, CHECK.with(text).of(0, 7), 1);
+            due("of 7, " + text, twoSorts(text), 1);
         }
         for (String text : not) {
-            due("of 7, " + text, CHECK.with(text).of(0, 7), 0);
+            due("of 7, " + text, twoSorts(text), 0);
         }
+    }
+
+    /** Behind a call that measures in another map. */
+    private static int twoSorts(String text) {
+        PlaneMaps x = CHECK.with(text);
+        Check.read(x, Samples.cycle(16), 1);
+        x.distance(1, 3, 5);
+        return x.of(0, 7);
     }
 
     private static void ofOneFace() {

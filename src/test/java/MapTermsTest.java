@@ -120,19 +120,23 @@ public final class MapTermsTest {
 
     private static void root() {
         CHECK.sentence(TERMS, "ROOT: a DART (0 without EDGES)");
-        PlaneMaps x = CHECK.with(Samples.LOOP);
-        due("root of a new map", x.of(3, 3), 0);
-        x.change(0, 4, 1, 0);
-        due("root 1", x.of(0, 3), 1);
-        x.change(0, 5, 1, 0);
-        due("root of what has no edges any more", x.of(0, 3), 0);
+        PlaneMaps x = CHECK.with(Samples.path(16));
+        for (int slot = 3; slot >= 0; slot--) {
+            x.change(0, 4, 31, slot);
+            due("the last dart as root", x.of(slot, 3), 31);
+        }
+        Check.read(x, Samples.LOOP, 1);
+        x.change(1, 4, 1, 1);
+        x.change(0, 0, 0, 2);
+        x.change(1, 5, 1, 1);
+        due("root without the last edge", x.of(1, 3), 0);
         Check.read(x, Samples.EDGE, 1);
         x.change(1, 4, 1, 1);
+        x.change(0, 0, 0, 2);
         x.halve(1, 1);
         due("root of one edge halved", x.of(1, 3), 0);
-        Check.read(x, Samples.path(16), 2);
-        x.change(2, 4, 31, 2);
-        due("the last dart as root", x.of(2, 3), 31);
+        x.map(0);
+        due("root of no text", x.of(0, 3), 0);
     }
 
     private static void degree() {

@@ -92,6 +92,30 @@ final class Samples {
         return x;
     }
 
+    /**
+     * An object that held the greatest trees and maps everywhere, in all rows that it works with, too, and
+     * has then got none of them: what is left over must not be seen.
+     */
+    static PlaneMaps used() {
+        PlaneMaps x = new PlaneMaps();
+        for (int slot = 0; slot < 3; slot++) {
+            x.tree(slot, 8, 9382229);
+        }
+        String[] texts = {star(16), loops(16), pair(16), cycle(16)};
+        for (int slot = 0; slot < 4; slot++) {
+            Check.read(x, texts[slot], slot);
+            x.change(slot, 4, 31, slot);
+            x.change(slot, 4, 31, slot);
+        }
+        for (int slot = 0; slot < 3; slot++) {
+            x.tree(slot, 0, 0);
+        }
+        for (int slot = 0; slot < 4; slot++) {
+            x.map(slot);
+        }
+        return x;
+    }
+
     /** All that can be seen without a change, in some 80 calls. */
     static String state(PlaneMaps x) {
         StringBuilder seen = new StringBuilder("tape " + x.look(0) + " faults");

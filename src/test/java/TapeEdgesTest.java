@@ -38,32 +38,29 @@ public final class TapeEdgesTest {
 
     private static void newTrees() {
         CHECK.sentence("Promise 1", "TREES, MAPS without EDGES.");
-        PlaneMaps x = new PlaneMaps();
-        for (int slot = 0; slot < 3; slot++) {
-            due("edges", x.shape(slot, 0, 0), 0);
-            due("rank", x.rank(slot), 0);
-            due("no step", x.shape(slot, 1, 0), -100);
-            due("label of the root", x.shape(slot, 2, 0), 0);
-            due("parent of the root", x.shape(slot, 3, 0), NONE);
-            due("heir", x.shape(slot, 4, 0), NONE);
-            due("vertex", x.shape(slot, 5, 0), 0);
+        for (PlaneMaps x : new PlaneMaps[] {new PlaneMaps(), Samples.used()}) {
+            for (int slot = 0; slot < 3; slot++) {
+                due("edges", x.shape(slot, 0, 0), 0);
+                due("rank", x.rank(slot), 0);
+                due("no step", x.shape(slot, 1, 0), -100);
+                due("label of the root", x.shape(slot, 2, 0), 0);
+                due("parent of the root", x.shape(slot, 3, 0), NONE);
+                due("heir", x.shape(slot, 4, 0), NONE);
+                due("vertex", x.shape(slot, 5, 0), 0);
+            }
         }
     }
 
     private static void newMaps() {
         CHECK.sentence("Promise 1", "MAPS without EDGES.");
-        PlaneMaps x = new PlaneMaps();
-        int[] want = {0, 1, 1, 0, 0, 0, 0, 1, 0};
-        for (int slot = 0; slot < 4; slot++) {
-            for (int what = 0; what < want.length; what++) {
-                due("of " + what, x.of(slot, what), want[what]);
+        for (PlaneMaps x : new PlaneMaps[] {new PlaneMaps(), Samples.used()}) {
+            for (int slot = 0; slot < 4; slot++) {
+                CHECK.dueBare("at first, or as at first", x, slot);
             }
-            due("no dart", x.dart(slot, 0, 0), NONE);
-            due("no text", x.shown(slot, NONE), 0);
+            due("an empty tape", x.look(0), 0);
+            due("no edges of trees", x.look(1), 0);
+            due("no edges of maps", x.look(2), 0);
         }
-        due("an empty tape", x.look(0), 0);
-        due("no edges of trees", x.look(1), 0);
-        due("no edges of maps", x.look(2), 0);
     }
 
     private static void lastCall() {

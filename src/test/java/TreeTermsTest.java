@@ -368,11 +368,12 @@ public final class TreeTermsTest {
         for (int root = 0; root <= 1; root++) {
             x.change(0, 4, root, 1);
             due("edges", x.halve(1, 1), 0);
-            due("vertices", x.of(1, 1), 1);
-            due("faces", x.of(1, 2), 1);
-            due("root", x.of(1, 3), 0);
-            CHECK.dueText("nothing is told", x, 1, "");
+            CHECK.dueBare("halved", x, 1);
         }
+        PlaneMaps y = Samples.used();
+        Check.read(y, Samples.EDGE, 2);
+        due("edges", y.halve(2, 3), 0);
+        CHECK.dueBare("halved where much was", y, 3);
     }
 
     private static void doubledEdges() {
@@ -427,9 +428,16 @@ public final class TreeTermsTest {
 
     private static void doubledBare() {
         CHECK.sentence(DOUBLED, "(Without EDGES: the MAP of one EDGE, ROOT 0.)");
-        PlaneMaps x = new PlaneMaps();
-        due("one edge", x.redouble(0, 3), 1);
-        CHECK.dueText("one edge", x, 3, Samples.EDGE);
-        due("its root", x.of(3, 3), 0);
+        PlaneMaps x = Samples.used();
+        Check.read(x, Samples.star(16), 1);
+        x.change(1, 4, 31, 1);
+        for (int slot : new int[] {1, 2, 0, 3}) {
+            x.change(1, 0, 0, 2);
+            due("one edge", x.redouble(3, slot), 1);
+            CHECK.dueText("one edge", x, slot, Samples.EDGE);
+            due("its root", x.of(slot, 3), 0);
+            Check.read(x, Samples.star(16), 1);
+            x.change(1, 4, 31, 1);
+        }
     }
 }
